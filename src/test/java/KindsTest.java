@@ -4,6 +4,7 @@ public final class KindsTest {
         rates();
         ratesAreRefused();
         images();
+        imagesAreNotTouchedLater();
         imagesAreRefused();
         imagesKeepNothingElse();
         Checks.end();
@@ -75,6 +76,24 @@ public final class KindsTest {
         Checks.due("keep(0)", x.keep(0), 3);
         Checks.due("back(1)", x.back(1), 1);
         Checks.due("back(0)", x.back(0), 3);
+    }
+
+    private static void imagesAreNotTouchedLater() {
+        AlwaysThere x = Checks.read("f0 1 5;h1;h2;c0 1;", 4);
+        x.sits(0, 1, 3, 4);
+        x.keep(0);
+        x.undo();
+        x.sits(1, 0, 7, 8);
+        Checks.due("back(0)", x.back(0), 1);
+        int[] sat = {0, 1, 3, 4};
+        for (int what = 0; what < 4; what++) {
+            Checks.due("sat(0, " + what + ")", x.sat(0, what), sat[what]);
+        }
+        x.waits(0, 5);
+        x.saw(0, 5);
+        x.back(0);
+        Checks.due("point(0, 2)", x.point(0, 2), 0);
+        Checks.due("point(0, 5)", x.point(0, 5), Checks.NONE);
     }
 
     private static void imagesAreRefused() {

@@ -32,6 +32,8 @@ public final class LandTest {
         Checks.due("way(4, 0)", x.way(4, 0), Checks.NONE);
         Checks.due("way(5, 0)", x.way(5, 0), Checks.BAD);
         Checks.due("way(0, -1)", x.way(0, -1), Checks.BAD);
+        AlwaysThere star = Checks.read("n3;f0 1 1;f0 2 1;f1 2 9;s1;", 5);
+        Checks.due("way(1, 2) over place 0", star.way(1, 2), 2);
         AlwaysThere far = Checks.read("n8;f0 1 9;f1 2 9;f2 3 9;f3 4 9;f4 5 9;f5 6 9;f6 7 9;s9;", 9);
         Checks.due("the farthest way", far.way(0, 7), 567);
         AlwaysThere back = Checks.read("n8;f7 6 1;f6 5 1;f5 4 1;f4 3 1;f3 2 1;f2 1 1;f1 0 1;f0 7 9;s1;", 10);

@@ -4,6 +4,7 @@ public final class NeededTest {
         noCourse();
         oneAlone();
         theFewest();
+        theFirstOfAllWays();
         theWorst();
         theWorstIsRefused();
         Checks.end();
@@ -34,6 +35,7 @@ public final class NeededTest {
         Checks.due("needed(-1)", x.needed(-1), 1);
         AlwaysThere roundabout = Checks.read("f0 1 9;f1 2 1;f2 0 1;s4;c0 1;", 5);
         Checks.due("one() by a shorter way", roundabout.one(), 1);
+        Checks.due("needed(1) asked first", Checks.read("f0 1 5;c0 1;", 2).needed(1), 1);
     }
 
     private static void who(AlwaysThere x, int... due) {
@@ -55,6 +57,16 @@ public final class NeededTest {
         row.waits(0, 20);
         Checks.due("needed(-1)", row.needed(-1), 4);
         who(row, 0, 0, 1, 2, 3);
+    }
+
+    /** Who takes the lesser number wherever he can would need a fourth one here. */
+    private static void theFirstOfAllWays() {
+        AlwaysThere x = Checks.read("n5;f0 1 2;f1 2 1;f2 3 1;f3 4 1;s3;c2 1 2 3 2 3 4;", 7);
+        Checks.due("needed(-1)", x.needed(-1), 3);
+        who(x, 0, 1, 0, 2, 1, 0, 2);
+        AlwaysThere round = Checks.read("n3;f0 1 2;f1 2 3;s3;c0 1 2 1 2 1 0;", 5);
+        Checks.due("needed(-1)", round.needed(-1), 3);
+        who(round, 0, 1, 2, 0, 1, 2, 0);
     }
 
     private static void worst(AlwaysThere x, int place, int k, int many, int course) {

@@ -9,6 +9,7 @@ public final class RaceTest {
         waiting();
         undoing();
         undoneAreTwelve();
+        undoneByTurns();
         undoLeavesTheRest();
         races();
         Checks.end();
@@ -124,6 +125,8 @@ public final class RaceTest {
         Checks.due("waits(2, 7)", x.waits(2, 7), 31);
         Checks.due("waits(1, 3)", x.waits(1, 3), 34);
         Checks.due("waits(0, 1)", x.waits(0, 1), 15);
+        Checks.due("waits(0, 0)", x.waits(0, 0), 14);
+        Checks.due("waits(0, 1)", x.waits(0, 1), 15);
         Checks.due("point(1, 1)", x.point(1, 1), 6);
         Checks.due("point(0, 1)", x.point(0, 1), 0);
         Checks.due("point(2, 2)", x.point(2, 2), 7);
@@ -132,7 +135,7 @@ public final class RaceTest {
         Checks.due("waits(3, 0)", x.waits(3, 0), Checks.BAD);
         Checks.due("waits(-1, 0)", x.waits(-1, 0), Checks.BAD);
         Checks.due("race(3)", x.race(3), 15);
-        Checks.due("race(4)", x.race(4), 4);
+        Checks.due("race(4)", x.race(4), 6);
         Checks.due("waits without a course", new AlwaysThere().waits(0, 0), Checks.BAD);
     }
 
@@ -174,6 +177,23 @@ public final class RaceTest {
         Checks.due("undo()", x.undo(), Checks.STATE);
         Checks.due("count(3)", x.count(3), 1);
         Checks.due("point(0, 2)", x.point(0, 2), 2);
+    }
+
+    private static void undoneByTurns() {
+        AlwaysThere x = Checks.read("f0 1 5;h0;c0 1;", 3);
+        for (int turn = 1; turn <= 8; turn++) {
+            x.sits(0, 0, turn, turn);
+            x.waits(turn % 2, turn);
+        }
+        for (int turn = 8; turn >= 3; turn--) {
+            Checks.due("undo() of a wait", x.undo(), 2 * turn - 5);
+            Checks.due("what he waited ahead", x.point(turn % 2, 2), turn - 2);
+            Checks.due("count(3)", x.count(3), turn);
+            Checks.due("undo() of a sits", x.undo(), 2 * turn - 6);
+            Checks.due("count(3)", x.count(3), turn - 1);
+        }
+        Checks.due("undo()", x.undo(), Checks.STATE);
+        Checks.due("sat(1, 2)", x.sat(1, 2), 2);
     }
 
     private static void undoLeavesTheRest() {

@@ -88,6 +88,7 @@ public final class WhoTest {
         Checks.due("fits(), whoever sits", x.fits(), 27);
         AlwaysThere many = Checks.read("f0 1 1;h0;h0;h0;h0;h0;s1;c0 1 0 1 0 1 0 1;", 8);
         Checks.due("the most ways", many.fits(), 390625);
+        Checks.due("sure(7) of five", many.sure(7), -5);
     }
 
     private static void beingSure() {
@@ -101,6 +102,10 @@ public final class WhoTest {
         x.saw(2, 1);
         Checks.due("sure(0), if there is no way", x.sure(0), Checks.NONE);
         Checks.due("sure(3)", x.sure(3), Checks.BAD);
+        AlwaysThere fifth = Checks.read("f0 1 5;h1;h1;h1;h1;h2;s1;c0 1;", 8);
+        fifth.saw(1, 2);
+        Checks.due("sure(1): the last one", fifth.sure(1), 4);
+        Checks.due("sure(0)", fifth.sure(0), -5);
     }
 
     private static void asking() {
@@ -120,6 +125,10 @@ public final class WhoTest {
         Checks.due("ask(4)", few.ask(4), Checks.BAD);
         AlwaysThere high = Checks.read("h0;h4;h8;h12;", 4);
         Checks.due("ask(15): two marks, not the lesser ones", high.ask(15), 12);
+        AlwaysThere all = Checks.read("h15;h14;h13;h11;h7;", 5);
+        Checks.due("ask(31): all marks", all.ask(31), 15);
+        AlwaysThere late = Checks.read("h0;h1;h12;h11;", 4);
+        Checks.due("ask(15): two marks, though three with a lesser number would do", late.ask(15), 9);
         Checks.due("ask(0) of nobody", new AlwaysThere().ask(0), 0);
         Checks.due("ask(1) of nobody", new AlwaysThere().ask(1), Checks.BAD);
     }
