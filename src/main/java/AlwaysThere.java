@@ -319,9 +319,9 @@ public final class AlwaysThere {
         if (image < 0 || image >= IMAGES) {
             return BAD;
         }
-        Now kept = imageOf(image);
-        kept.become(now);
-        kept.kept = true;
+        Now then = imageOf(image);
+        then.become(now);
+        then.kept = true;
         return now.sitsCount;
     }
 
@@ -329,11 +329,11 @@ public final class AlwaysThere {
         if (image < 0 || image >= IMAGES) {
             return BAD;
         }
-        Now kept = imageOf(image);
-        if (!kept.kept) {
+        Now then = imageOf(image);
+        if (!then.kept) {
             return STATE;
         }
-        now.become(kept);
+        now.become(then);
         history.size = 0;
         course.follow(land, now.wait);
         return now.sitsCount;
@@ -587,14 +587,15 @@ public final class AlwaysThere {
 
     /** THE TEXT, and how it is read: into a draft, so that nothing is changed if there is a FAULT. */
     private static final class Reader {
-        private static final int NUMBER = 256, END = 257, WRONG = 258;
+        /** Beyond all letters. NOT_A_NUMBER: figures above 99, or with a 0 ahead. */
+        private static final int NUMBER = 256, END = 257, NOT_A_NUMBER = 258;
         private static final int BLANK = 32;
         private static final int DIGITS_MAX = 2;
 
         final char[] letters = new char[TEXT_MAX];
         int length;
         final Land draft = new Land();
-        /** The TOKEN to be read next: its letter, or one of the numbers above. */
+        /** The TOKEN to be read next: its letter (another letter, too: it can stand nowhere), or one of those above. */
         private int token;
         private int number;
         private int begin;
@@ -687,11 +688,11 @@ public final class AlwaysThere {
         private boolean readFurrow() {
             int a = takePlace();
             int b = a == NONE ? NONE : takePlaceUnlike(a);
-            int length = b == NONE ? NONE : takeNumber(1, LONG_MAX);
-            if (length == NONE) {
+            int howLong = b == NONE ? NONE : takeNumber(1, LONG_MAX);
+            if (howLong == NONE) {
                 return false;
             }
-            draft.putFurrow(a, b, length);
+            draft.putFurrow(a, b, howLong);
             return true;
         }
 
@@ -763,7 +764,7 @@ public final class AlwaysThere {
             } else if (isDigit(begin)) {
                 readDigits();
             } else {
-                token = isTokenLetter(letters[begin]) ? letters[begin] : WRONG;
+                token = letters[begin];
                 behind = begin + 1;
             }
         }
@@ -779,28 +780,11 @@ public final class AlwaysThere {
             }
             int digits = behind - begin;
             boolean zeroAhead = digits > 1 && letters[begin] == '0';
-            token = digits > DIGITS_MAX || zeroAhead ? WRONG : NUMBER;
+            token = digits > DIGITS_MAX || zeroAhead ? NOT_A_NUMBER : NUMBER;
         }
 
         private boolean isDigit(int at) {
             return letters[at] >= '0' && letters[at] <= '9';
-        }
-
-        private static boolean isTokenLetter(int letter) {
-            switch (letter) {
-                case 'n':
-                case 'f':
-                case 'v':
-                case 'h':
-                case 's':
-                case 't':
-                case 'r':
-                case 'c':
-                case ';':
-                    return true;
-                default:
-                    return false;
-            }
         }
     }
 

@@ -25,8 +25,9 @@ public final class AgainstModelTest {
     }
 
     private void run() {
+        boolean tellsAtOnce = random.nextInt(4) > 0;
         while (calls < CALLS) {
-            if (calls == 0 || random.nextInt(60) == 0) {
+            if (tellsAtOnce && calls == 0 || random.nextInt(60) == 0) {
                 tell(random.nextInt(4) == 0 ? spoilt(text()) : text());
             } else {
                 call();

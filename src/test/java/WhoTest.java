@@ -33,6 +33,7 @@ public final class WhoTest {
 
     private static void nobodyOrNowhere() {
         Checks.due("fits() without a course", Checks.read("h0;h0;", 2).fits(), 1);
+        Checks.due("forget() of a new object", new AlwaysThere().forget(), 0);
         AlwaysThere nobody = Checks.read("c0;", 1);
         Checks.due("fits() with nobody", nobody.fits(), 0);
         Checks.due("sure(0) with nobody", nobody.sure(0), Checks.NONE);
