@@ -416,7 +416,7 @@ public final class AlwaysThere {
         return true;
     }
 
-    /** The greatest number by which both can be divided; whole is above 0. */
+    /** The greatest number, 1 at least, by which both can be divided. */
     private static int greatestShared(int part, int whole) {
         for (int divisor = whole; divisor > 1; divisor--) {
             if (part % divisor == 0 && whole % divisor == 0) {
