@@ -587,19 +587,20 @@ public final class AlwaysThere {
 
     /** THE TEXT, and how it is read: into a draft, so that nothing is changed if there is a FAULT. */
     private static final class Reader {
-        /** Beyond all letters. NOT_A_NUMBER: figures above 99, or with a 0 ahead. */
-        private static final int NUMBER = 256, END = 257, NOT_A_NUMBER = 258;
+        /** What TOKENS are that are no letters; a NUMBER n is NUMBER + n. NOT_A_NUMBER: above 99, or with a 0 ahead. */
+        private static final int END = 256, NOT_A_NUMBER = 257, NUMBER = 258;
         private static final int BLANK = 32;
         private static final int DIGITS_MAX = 2;
 
         final char[] letters = new char[TEXT_MAX];
         int length;
         final Land draft = new Land();
-        /** The TOKEN to be read next: its letter (another letter, too: it can stand nowhere), or one of those above. */
-        private int token;
-        private int number;
-        private int begin;
-        private int behind;
+        /** THE TEXT's TOKENS, END behind them: letters (others, too, that can stand nowhere), or as above. */
+        private final int[] token = new int[TEXT_MAX + 1];
+        /** For each TOKEN the place of its first letter. */
+        private final int[] place = new int[TEXT_MAX + 1];
+        /** Which TOKEN is to be read next. Nothing goes over END. */
+        private int next;
         /** The letters (bits) of ITEMS that were told. */
         private int told;
 
@@ -610,30 +611,69 @@ public final class AlwaysThere {
         int readAll() {
             draft.wipe();
             told = 0;
-            behind = 0;
-            goOn();
+            next = 0;
+            split();
             for (int items = 0; items <= TEXT_MAX; items++) {
-                if (token == END) {
+                if (token[next] == END) {
                     return items;
                 }
                 if (!readItem(items == 0)) {
                     break;
                 }
             }
-            return FAULT_BASE - begin;
+            return FAULT_BASE - place[next];
+        }
+
+        private void split() {
+            int tokens = 0;
+            for (int at = 0; at < length; at++) {
+                if (letters[at] == BLANK) {
+                    continue;
+                }
+                int last = lastOfFigures(at);
+                place[tokens] = at;
+                token[tokens] = isFigure(at) ? tokenOfFigures(at, last) : letters[at];
+                tokens++;
+                at = last;
+            }
+            place[tokens] = length;
+            token[tokens] = END;
+        }
+
+        private boolean isFigure(int at) {
+            return letters[at] >= '0' && letters[at] <= '9';
+        }
+
+        /** The last one of the figures that begin there; where none is, that very place. */
+        private int lastOfFigures(int first) {
+            int behind = first;
+            while (behind < length && isFigure(behind)) {
+                behind++;
+            }
+            return Math.max(first, behind - 1);
+        }
+
+        private int tokenOfFigures(int first, int last) {
+            int units = letters[last] - '0';
+            if (first == last) {
+                return NUMBER + units;
+            }
+            boolean tooMany = last - first >= DIGITS_MAX;
+            int tens = letters[first] - '0';
+            return tooMany || tens == 0 ? NOT_A_NUMBER : NUMBER + 10 * tens + units;
         }
 
         private boolean readItem(boolean first) {
-            int letter = token;
+            int letter = token[next];
             if (!canBegin(letter, first)) {
                 return false;
             }
             told |= bitOf(letter);
-            goOn();
-            if (!readBody(letter) || token != ';') {
+            next++;
+            if (!readBody(letter) || token[next] != ';') {
                 return false;
             }
-            goOn();
+            next++;
             return true;
         }
 
@@ -722,7 +762,7 @@ public final class AlwaysThere {
             for (int i = 0; i < POINTS_MAX && place != NONE; i++) {
                 draft.course[i] = place;
                 draft.points = i + 1;
-                if (token == ';' || draft.points == POINTS_MAX) {
+                if (token[next] == ';' || draft.points == POINTS_MAX) {
                     return true;
                 }
                 place = takePlaceBeyondFurrow(place);
@@ -735,56 +775,24 @@ public final class AlwaysThere {
         }
 
         private int takePlaceUnlike(int a) {
-            return token == NUMBER && number == a ? NONE : takePlace();
+            return token[next] == NUMBER + a ? NONE : takeNumber(0, draft.places - 1);
         }
 
         private int takePlaceBeyondFurrow(int from) {
-            boolean cutOff = token == NUMBER && draft.hasPlace(number) && draft.furrowBetween(from, number) == 0;
-            return cutOff ? NONE : takePlace();
+            int to = token[next] - NUMBER;
+            boolean cutOff = draft.hasPlace(to) && draft.furrowBetween(from, to) == 0;
+            return cutOff ? NONE : takeNumber(0, draft.places - 1);
         }
 
         /** The NUMBER that is next, if it is one and not beyond these; or else NONE, and it stays unread. */
         private int takeNumber(int least, int most) {
-            if (token != NUMBER || number < least || number > most) {
+            // What is no NUMBER is below 0 here.
+            int number = token[next] - NUMBER;
+            if (number < 0 || number < least || number > most) {
                 return NONE;
             }
-            int taken = number;
-            goOn();
-            return taken;
-        }
-
-        private void goOn() {
-            begin = behind;
-            while (begin < length && letters[begin] == BLANK) {
-                begin++;
-            }
-            behind = begin;
-            if (begin >= length) {
-                token = END;
-            } else if (isDigit(begin)) {
-                readDigits();
-            } else {
-                token = letters[begin];
-                behind = begin + 1;
-            }
-        }
-
-        private void readDigits() {
-            number = 0;
-            while (behind < length && isDigit(behind)) {
-                // Only the first digits are needed: with more of them it is no NUMBER, whatever they are.
-                if (behind - begin < DIGITS_MAX) {
-                    number = number * 10 + letters[behind] - '0';
-                }
-                behind++;
-            }
-            int digits = behind - begin;
-            boolean zeroAhead = digits > 1 && letters[begin] == '0';
-            token = digits > DIGITS_MAX || zeroAhead ? NOT_A_NUMBER : NUMBER;
-        }
-
-        private boolean isDigit(int at) {
-            return letters[at] >= '0' && letters[at] <= '9';
+            next++;
+            return number;
         }
     }
 

@@ -34,6 +34,14 @@ final class Checks {
         return x;
     }
 
+    /** A text that can't be read: the answer tells the place, and the text stays. */
+    static void fault(String text, int place) {
+        AlwaysThere x = new AlwaysThere();
+        tell(x, text);
+        due("furrows() of '" + text + "'", x.furrows(), -10 - place);
+        due("the text stays: '" + text + "'", x.count(4), text.length());
+    }
+
     static void end() {
         System.out.println(made + " answers, " + wrong + " of them not as due");
         if (wrong != 0) {

@@ -67,76 +67,69 @@ public final class TextTest {
         Checks.due("a furrow told again behind c", later.race(3), 10);
     }
 
-    private static void fault(String text, int place) {
-        AlwaysThere x = new AlwaysThere();
-        Checks.tell(x, text);
-        Checks.due("furrows() of '" + text + "'", x.furrows(), -10 - place);
-        Checks.due("the text stays", x.count(4), text.length());
-    }
-
     private static void faults() {
-        fault("n1;", 1);
-        fault("n9;", 1);
-        fault("n;", 1);
-        fault("n2;n2;", 3);
-        fault("h1;n2;", 3);
-        fault("; ", 0);
-        fault("h1;;", 3);
-        fault(" 3;", 1);
-        fault("n2;f0 2 1;", 6);
-        fault("f4 0 1;", 1);
-        fault("f0 0 1;", 3);
-        fault("f0 1 0;", 5);
-        fault("f0 1 10;", 5);
-        fault("f0 1;", 4);
-        fault("f0 1 1 1;", 7);
-        fault("f01 2 3;", 1);
-        fault("f0 00 3;", 3);
-        fault("v0 0;", 3);
-        fault("v0 4;", 3);
-        fault("v0 1 2;", 5);
-        fault("h16;", 1);
-        fault("h100;", 1);
-        fault("h0000000000000000001;", 1);
-        fault("h99999999999999999999;", 1);
-        fault("h1;h1;h1;h1;h1;h1;", 15);
-        fault("s0;", 1);
-        fault("s10;", 1);
-        fault("s1;s1;", 3);
-        fault("t4;", 1);
-        fault("t0;t0;", 3);
-        fault("r100;", 1);
-        fault("r1;r1;", 3);
-        fault("c;", 1);
-        fault("c4;", 1);
-        fault("c0 1;f0 1 1;", 3);
-        fault("c0 0;", 3);
-        fault("c0;c0;", 3);
-        fault("f0 1 1;c0 1 4;", 12);
-        fault("f0 1 1;c0 1 0 1 0 1 0 1 0;", 24);
-        fault("f0 1 1;c0 1 0 1 0 1 0 1 9;", 24);
-        fault("f0 1 1;c0 1 h1;", 12);
-        fault("x", 0);
-        fault("h1;  x", 5);
-        fault("h1 h", 3);
-        fault("H1;", 0);
-        fault("h1,", 2);
-        fault("h-1;", 1);
-        fault("h1;" + (char) 9, 3);
-        fault("h1;" + (char) 0, 3);
-        fault("h1;" + (char) 233, 3);
-        fault("n3f0 1 1;", 2);
+        Checks.fault("n1;", 1);
+        Checks.fault("n9;", 1);
+        Checks.fault("n;", 1);
+        Checks.fault("n2;n2;", 3);
+        Checks.fault("h1;n2;", 3);
+        Checks.fault("; ", 0);
+        Checks.fault("h1;;", 3);
+        Checks.fault(" 3;", 1);
+        Checks.fault("n2;f0 2 1;", 6);
+        Checks.fault("f4 0 1;", 1);
+        Checks.fault("f0 0 1;", 3);
+        Checks.fault("f0 1 0;", 5);
+        Checks.fault("f0 1 10;", 5);
+        Checks.fault("f0 1;", 4);
+        Checks.fault("f0 1 1 1;", 7);
+        Checks.fault("f01 2 3;", 1);
+        Checks.fault("f0 00 3;", 3);
+        Checks.fault("v0 0;", 3);
+        Checks.fault("v0 4;", 3);
+        Checks.fault("v0 1 2;", 5);
+        Checks.fault("h16;", 1);
+        Checks.fault("h100;", 1);
+        Checks.fault("h0000000000000000001;", 1);
+        Checks.fault("h99999999999999999999;", 1);
+        Checks.fault("h1;h1;h1;h1;h1;h1;", 15);
+        Checks.fault("s0;", 1);
+        Checks.fault("s10;", 1);
+        Checks.fault("s1;s1;", 3);
+        Checks.fault("t4;", 1);
+        Checks.fault("t0;t0;", 3);
+        Checks.fault("r100;", 1);
+        Checks.fault("r1;r1;", 3);
+        Checks.fault("c;", 1);
+        Checks.fault("c4;", 1);
+        Checks.fault("c0 1;f0 1 1;", 3);
+        Checks.fault("c0 0;", 3);
+        Checks.fault("c0;c0;", 3);
+        Checks.fault("f0 1 1;c0 1 4;", 12);
+        Checks.fault("f0 1 1;c0 1 0 1 0 1 0 1 0;", 24);
+        Checks.fault("f0 1 1;c0 1 0 1 0 1 0 1 9;", 24);
+        Checks.fault("f0 1 1;c0 1 h1;", 12);
+        Checks.fault("x", 0);
+        Checks.fault("h1;  x", 5);
+        Checks.fault("h1 h", 3);
+        Checks.fault("H1;", 0);
+        Checks.fault("h1,", 2);
+        Checks.fault("h-1;", 1);
+        Checks.fault("h1;" + (char) 9, 3);
+        Checks.fault("h1;" + (char) 0, 3);
+        Checks.fault("h1;" + (char) 233, 3);
+        Checks.fault("n3f0 1 1;", 2);
     }
 
     private static void endsTooEarly() {
-        fault("n", 1);
-        fault("n2", 2);
-        fault("f0 1 1", 6);
-        fault("f0 ", 3);
-        fault("c", 1);
-        fault("c0", 2);
-        fault("h1;h1   ", 8);
-        fault("h15", 3);
+        Checks.fault("n", 1);
+        Checks.fault("n2", 2);
+        Checks.fault("f0 1 1", 6);
+        Checks.fault("f0 ", 3);
+        Checks.fault("c", 1);
+        Checks.fault("c0", 2);
+        Checks.fault("h1;h1   ", 8);
+        Checks.fault("h15", 3);
     }
 
     private static void faultChangesNothing() {
