@@ -26,9 +26,10 @@ public final class AgainstModelTest {
 
     private void run() {
         boolean tellsAtOnce = random.nextInt(4) > 0;
-        while (calls < CALLS) {
+        // A call() may make two of them; what is answered behind the last one is free.
+        while (calls + 2 <= CALLS) {
             if (tellsAtOnce && calls == 0 || random.nextInt(60) == 0) {
-                tell(random.nextInt(4) == 0 ? spoilt(text()) : text());
+                tellIfThereIsRoom(random.nextInt(4) == 0 ? spoilt(text()) : text());
             } else {
                 call();
             }
@@ -44,6 +45,12 @@ public final class AgainstModelTest {
     private void check(String call, long got, long want) {
         calls++;
         Checks.due(textsTold + " " + call, got, want);
+    }
+
+    private void tellIfThereIsRoom(String text) {
+        if (calls + text.length() + 2 <= CALLS) {
+            tell(text);
+        }
     }
 
     private void tell(String text) {

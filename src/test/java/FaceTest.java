@@ -31,7 +31,8 @@ public final class FaceTest {
     }
 
     private static void face() {
-        Checks.holds("the class is public and final", AlwaysThere.class.getModifiers() == (Modifier.PUBLIC | Modifier.FINAL));
+        int modifiers = AlwaysThere.class.getModifiers();
+        Checks.holds("the class is public and final", modifiers == (Modifier.PUBLIC | Modifier.FINAL));
         Set<String> got = new TreeSet<>();
         for (Method m : AlwaysThere.class.getDeclaredMethods()) {
             if (Modifier.isPublic(m.getModifiers())) {

@@ -49,7 +49,8 @@ public final class ImagesBoundsTest {
         for (int h : new int[] {-1, 3, 5, LEAST, MOST}) {
             for (int kind = 0; kind < 6; kind++) {
                 int of = kind;
-                Twins.unchanged("rate(" + kind + ", " + h + ")", ImagesBoundsTest::aRace, x -> x.rate(of, h), Checks.NO);
+                String name = "rate(" + kind + ", " + h + ")";
+                Twins.unchanged(name, ImagesBoundsTest::aRace, x -> x.rate(of, h), Checks.NO);
             }
         }
         AlwaysThere nobody = new AlwaysThere();

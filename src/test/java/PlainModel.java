@@ -7,7 +7,7 @@ import java.util.List;
 import java.util.Set;
 import java.util.TreeMap;
 
-/** The document once more, by trying everything: slow, with the whole Java library, and sharing no code with the class. */
+/** The document once more, by trying everything: slow, by the whole Java library, sharing no code with the class. */
 final class PlainModel {
     private static final int BAD = -1, STATE = -2, FULL = -3, NONE = -9, NO = -1000000;
 

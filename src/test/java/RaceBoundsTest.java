@@ -49,8 +49,8 @@ public final class RaceBoundsTest {
             Checks.due("sat(0, 2)", x.sat(0, 2), m[0]);
             Checks.due("sat(0, 3)", x.sat(0, 3), m[1]);
         }
-        int[][] bad = {{-1, -1}, {-1, 0}, {-1, 999}, {0, -1}, {1, 0}, {999, 998}, {999, 1000}, {1000, 1000}, {1000, 999},
-            {0, 1000}, {LEAST, 0}, {0, MOST}, {LEAST, MOST}, {MOST, LEAST}, {MOST, MOST}, {LEAST, LEAST}};
+        int[][] bad = {{-1, -1}, {-1, 0}, {-1, 999}, {0, -1}, {1, 0}, {999, 998}, {999, 1000}, {1000, 1000},
+            {1000, 999}, {0, 1000}, {LEAST, 0}, {0, MOST}, {LEAST, MOST}, {MOST, LEAST}, {MOST, MOST}, {LEAST, LEAST}};
         for (int[] m : bad) {
             Twins.unchanged("sits from " + m[0] + " to " + m[1], RaceBoundsTest::aRace, x -> x.sits(0, 0, m[0], m[1]),
                 Checks.BAD);
@@ -72,7 +72,8 @@ public final class RaceBoundsTest {
         AlwaysThere x = row();
         Checks.due("the last hedgehog at the last place", x.sits(1, 3, 0, 0), 1);
         for (int none : new int[] {-1, 2, 5, LEAST, MOST}) {
-            Twins.unchanged("sits of hedgehog " + none, RaceBoundsTest::aRace, y -> y.sits(none, 0, 500, 500), Checks.BAD);
+            Twins.unchanged("sits of hedgehog " + none, RaceBoundsTest::aRace, y -> y.sits(none, 0, 500, 500),
+                Checks.BAD);
         }
         for (int none : new int[] {-1, 4, 8, LEAST, MOST}) {
             Twins.unchanged("sits at place " + none, RaceBoundsTest::aRace, y -> y.sits(0, none, 500, 500), Checks.BAD);

@@ -405,7 +405,7 @@ public final class TextBoundsTest {
         Checks.fault("n2; n2;", 4);
     }
 
-    /** "FAULT: ... of any other letter ... that TOKEN's" place: every letter, wherever an ITEM, a NUMBER, a ; is due. */
+    /** "FAULT: ... of any other letter ... that TOKEN's" place: every letter where an ITEM, a NUMBER, a ; is due. */
     private static void anyOtherLetter() {
         for (int letter = 0; letter <= 255; letter++) {
             boolean blank = letter == 32;
@@ -432,7 +432,7 @@ public final class TextBoundsTest {
         Checks.read("r99;", 1);
         Checks.read("r0;", 1);
         Checks.read("r10;", 1);
-        String[] none = {"100", "990", "999", "1000", "00", "01", "09", "000", "007", "010", "4294967296", "4294967297"};
+        String[] none = {"100", "990", "999", "1000", "4294967296", "4294967297", "00", "01", "09", "000", "010"};
         for (String number : none) {
             Checks.fault("r" + number + ";", 1);
             Checks.fault("r " + number + " ;", 2);
@@ -490,7 +490,9 @@ public final class TextBoundsTest {
         Checks.due("200 letters end too early", filled("h1").furrows(), -210);
         Checks.due("200 letters end in a number", filled("h").furrows(), -210);
         Checks.due("200 letters end in an end too many", filled("h1;;").furrows(), -209);
-        Checks.due("a fault at the first letter", Checks.read("", 0).furrows(), 0);
+        Checks.fault(";".repeat(200), 0);
+        Checks.fault("h1;" + "7 ".repeat(98), 3);
+        Checks.fault("h1;h1;h1;h1;h1;" + "h".repeat(185), 15);
         AlwaysThere x = new AlwaysThere();
         Checks.tell(x, "x" + " ".repeat(199));
         Checks.due("a fault at the first letter", x.furrows(), -10);
@@ -516,7 +518,7 @@ public final class TextBoundsTest {
         }
     }
 
-    /** "Read anew: as told (what is not told as at first), nothing of these, IMAGES are gone, nothing can be UNDONE". */
+    /** "Read anew: as told (what is not told as at first), nothing of these, IMAGES are gone, nothing ... UNDONE". */
     private static void readAnewAsAtFirst() {
         String[] texts = {"", "n2;", "f0 2 2;", "v2 3;", "h2;h1;", "s1;", "t3;", "r1;", "c0;", ALL_ITEMS};
         for (String text : texts) {
